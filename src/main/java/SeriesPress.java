@@ -21,8 +21,8 @@ public final class SeriesPress {
     private static final int FED_BYTES = 20;
     private static final int FRACTION_BITS = 52;
 
-    /** 185 bytes behind a HEAD hold 740 POINTS of two bits each, beside the one of the HEAD. */
-    private static final int MOST_POINTS = MOST_BLOCKS * 741 + MOST_LATE;
+    /** Behind a HEAD are 1480 bits at most: ten of the second POINT at least, two of each that follows. */
+    private static final int MOST_POINTS = MOST_BLOCKS * 737 + MOST_LATE;
 
     private static final int WAY_SAME = 5;
     private static final int WAY_WINDOW = 6;
@@ -522,14 +522,22 @@ public final class SeriesPress {
         if (isNone(series)) {
             return NO_SUCH;
         }
-        return repacked(series, slots[series].room);
+        if (slots[series].broken() != 0) {
+            return SPOILT;
+        }
+        gathered(series);
+        return packMine(series, slots[series].room);
     }
 
     public int repack(int series, int room) {
         if (isNone(series) || !isRoom(room)) {
             return NO_SUCH;
         }
-        return repacked(series, room);
+        if (slots[series].broken() != 0) {
+            return SPOILT;
+        }
+        gathered(series);
+        return packMine(series, room);
     }
 
     public int thin(int series, int step) {
@@ -594,14 +602,6 @@ public final class SeriesPress {
             }
         }
         return chosen;
-    }
-
-    private int repacked(int series, int room) {
-        if (slots[series].broken() != 0) {
-            return SPOILT;
-        }
-        gathered(series);
-        return packMine(series, room);
     }
 
     private int packMine(int to, int room) {
@@ -909,7 +909,7 @@ public final class SeriesPress {
             while (left > 0) {
                 int index = HEAD_BYTES + (bits >> 3);
                 int free = 8 - (bits & 7);
-                int now = Math.min(free, left);
+                int now = free < left ? free : left;
                 if (index >= MOST_ROOM) {
                     return;
                 }
@@ -1116,15 +1116,6 @@ public final class SeriesPress {
                 return FAULT_CHECK;
             }
             open(b);
-            int found = examineBits();
-            if (found == 0 && known && (first != b.first || coder.stamp != b.last)) {
-                place = 0;
-                return FAULT_OTHER;
-            }
-            return found;
-        }
-
-        private int examineBits() {
             place = 0;
             if (points == 0) {
                 return FAULT_EMPTY;
@@ -1144,6 +1135,10 @@ public final class SeriesPress {
             int rest = limit - position;
             if (rest > 7 || takeBits(rest) != 0) {
                 return FAULT_REST;
+            }
+            if (known && (first != b.first || coder.stamp != b.last)) {
+                place = 0;
+                return FAULT_OTHER;
             }
             place = NONE;
             return 0;
@@ -1197,37 +1192,25 @@ public final class SeriesPress {
         }
 
         private void takeValue() {
-            misshapen = false;
-            differing = 0;
+            lead = 0;
+            tail = 0;
+            int width = 0;
             if (takeBits(1) == 0) {
                 way = WAY_SAME;
             } else if (takeBits(1) == 0) {
                 way = WAY_WINDOW;
-                takeByWindow();
+                tail = coder.tail;
+                width = coder.lead == NONE ? 0 : 64 - coder.lead - tail;
             } else {
                 way = WAY_ANEW;
-                takeAnew();
+                lead = (int) takeBits(5);
+                width = (int) takeBits(6) + 1;
+                tail = 64 - lead - width;
             }
-        }
-
-        private void takeByWindow() {
-            if (coder.lead == NONE) {
-                misshapen = true;
-                return;
-            }
-            differing = takeBits(64 - coder.lead - coder.tail) << coder.tail;
-        }
-
-        private void takeAnew() {
-            lead = (int) takeBits(5);
-            int width = (int) takeBits(6) + 1;
-            tail = 64 - lead - width;
             long own = takeBits(width);
-            if (tail < 0) {
-                misshapen = true;
-            } else {
-                differing = own << tail;
-            }
+            // More bits than a value has are no value; they are read, as it may end within them.
+            misshapen = tail < 0;
+            differing = misshapen ? 0 : own << tail;
         }
 
         private long takeBits(int width) {
@@ -1239,7 +1222,7 @@ public final class SeriesPress {
             int left = width;
             while (left > 0) {
                 int free = 8 - (position & 7);
-                int now = Math.min(free, left);
+                int now = free < left ? free : left;
                 int part = (bytes[position >> 3] >> (free - now)) & ((1 << now) - 1);
                 number = (number << now) | part;
                 position += now;
@@ -1300,25 +1283,20 @@ public final class SeriesPress {
             }
             int length = b.size - 1;
             int due = b.checkOf(length);
-            if (b.bytes[length] < MODULUS) {
-                tryAhead(b, length, b.bytes[length] - due);
-            }
-            tryChange(b, length, due);
-            return found;
-        }
-
-        /** Of each byte only one remainder makes the CHECK right, so few changes are left to try. */
-        private void tryAhead(Block b, int length, int away) {
+            int away = b.bytes[length] - due;
             int factor = 1;
             for (int i = 1; i < length; i++) {
                 factor = factor * UNFACTOR % MODULUS;
             }
-            for (int i = 0; i < length; i++) {
+            // Of each byte only one remainder makes the CHECK right, so few changes are left to try.
+            for (int i = 0; i < length && b.bytes[length] < MODULUS; i++) {
                 int remainder = Math.floorMod(b.bytes[i] + away * factor, MODULUS);
                 tryChange(b, i, remainder);
                 tryChange(b, i, remainder + MODULUS);
                 factor = factor * FACTOR % MODULUS;
             }
+            tryChange(b, length, due);
+            return found;
         }
 
         private void tryChange(Block b, int index, int to) {
