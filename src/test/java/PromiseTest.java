@@ -64,10 +64,16 @@ public final class PromiseTest {
             all.append('0');
         }
         List<Integer> bytes = new ArrayList<>();
-        int check = 7;
         for (int i = 0; i < all.length(); i += 8) {
-            int b = Integer.parseInt(all.substring(i, i + 8), 2);
-            bytes.add(b);
+            bytes.add(Integer.parseInt(all.substring(i, i + 8), 2));
+        }
+        return checked(bytes);
+    }
+
+    static List<Integer> checked(List<Integer> ahead) {
+        List<Integer> bytes = new ArrayList<>(ahead);
+        int check = 7;
+        for (int b : ahead) {
             check = (check * 31 + b) % 251;
         }
         bytes.add(check);
@@ -549,6 +555,7 @@ public final class PromiseTest {
         due("10: anew, more than 64 bits, and they end", taken(0, 5, 2, one + "11 11111 111111" + "1".repeat(40)), -12);
         due("10: window ahead of any", taken(0, 5, 2, one + "10 00000"), -14);
         due("10: window ahead of any leaves no bits", taken(0, 5, 2, one + "10"), -14);
+        due("10: window ahead of any, to the byte", taken(0, 5, 3, "110 001000001 0 0 10"), -14);
         String window = one + "11 00100 001011 100000000001";
         due("10: by window", taken(0, 5, 3, window + "0 10 000000000011"), 0);
         due("10: by window, X 0", taken(0, 5, 3, window + "0 10 000000000000"), -14);
@@ -625,6 +632,8 @@ public final class PromiseTest {
         due("14: none such", x.nearest(1, 5), -2);
         due("41: none such", x.since(1, 5), -2);
         x.add(0, 10, 0);
+        due("14: one point, behind", x.nearest(0, 0), 10);
+        due("14: one point, ahead", x.nearest(0, 11), 10);
         x.seals(0);
         x.add(0, 20, 0);
         x.add(0, MAX, 0);
@@ -684,6 +693,10 @@ public final class PromiseTest {
             due("16: all, what " + what, x.span(0, Integer.MIN_VALUE, Integer.MAX_VALUE, what), all[what]);
         }
         due("16: on its edges", x.span(0, 10, 30, 0), 3);
+        due("16: no number first", x.span(0, 10, 30, 4), 1);
+        due("16: -0.0 first", x.span(0, 20, 30, 5), 1);
+        due("16: infinite first", x.span(0, 40, 49, 6), 1);
+        due("16: infinite last", x.span(0, 45, 50, 6), 1);
         due("16: within", x.span(0, 11, 29, 0), 1);
         due("16: opened, the last of one and the first of the next", x.span(0, 10, 20, 1), 2);
         due("16: opened between two", x.span(0, 11, 19, 1), 0);
@@ -1369,6 +1382,10 @@ public final class PromiseTest {
         due("45: no bytes", x.takes(0), -11);
         tape(x, sealed(7, 5, 1, "").subList(0, 14));
         due("45: 14 bytes", x.takes(0), -11);
+        tape(x, List.of(7));
+        due("45: one byte, the check of none", x.takes(0), -11);
+        tape(x, checked(sealed(20, 5, 1, "").subList(0, 13)));
+        due("45: 14 bytes with a right check", x.takes(0), -11);
         tape(x, sealed(9, 5, 2, two));
         due("45: not above last", x.takes(0), -5);
         due("46: it is gone then", x.taped(), 0);
