@@ -148,6 +148,13 @@ public final class PromiseTest extends DocumentTest {
             dueText("the other one stays", look(x, 1), other);
             due("any stamp comes", x.add(0, 0, 0), 0);
             due("and is a head", x.block(0, 0, 4), 0);
+            SeriesPress y = holding(sealed(0, 5, 256, "10 0000001 0"));
+            due("broken at a place", y.fault(0, 0, 1), 16);
+            y.begins(0, 24);
+            y.add(0, 0, 0);
+            due("no place is left", y.fault(0, 0, 1), NONE);
+            due("no fault is left", y.fault(0, 0, 0), 0);
+            due("no count is left", y.octet(0, 0, 12), 0);
         });
         says(NO_SUCH, () -> {
             for (int s : new int[] {-1, 4, LEAST_INT, GREATEST_INT}) {
@@ -344,6 +351,13 @@ public final class PromiseTest extends DocumentTest {
             due("is in a block", z.where(0, 4), 0);
             SeriesPress full = single(16);
             due("sixteen blocks", full.merge(0), 16);
+            SeriesPress two = two();
+            String first = look(two, 0);
+            String second = look(two, 1);
+            due("one series", two.merge(0), 1);
+            due("another one", two.merge(1), two.count(1, 2));
+            dueText("the first is as it was", look(two, 0), first);
+            dueText("the second is as it was", look(two, 1), second);
         });
         says("-2: there is no such SERIES;", () -> {
             SeriesPress x = begun(24);
@@ -367,6 +381,10 @@ public final class PromiseTest extends DocumentTest {
             x.late(0, 1, MINUS_ZERO);
             stays("a late one more", x, () -> x.merge(0), -4);
             due("the open one is open", x.add(0, 15000001, -1), 15);
+            SeriesPress y = single(16);
+            y.merge(0);
+            y.late(0, 1, MINUS_ZERO);
+            stays("behind one that went well", y, () -> y.merge(0), -4);
         });
     }
 
@@ -726,8 +744,9 @@ public final class PromiseTest extends DocumentTest {
         });
         says("0 without one, or without such a SERIES.", () -> {
             SeriesPress x = spoilt();
-            due("in a broken one", x.at(0, 0), 0);
+            due("there is one", x.at(0, 10), 5);
             due("between", x.at(0, 11), 0);
+            due("in a broken one", x.at(0, 0), 0);
             due("above LAST", x.at(0, 21), 0);
             for (int stamp : NO_STAMPS) {
                 due("stamp " + stamp, x.at(0, stamp), 0);
@@ -849,6 +868,8 @@ public final class PromiseTest extends DocumentTest {
             SeriesPress x = mixed();
             due("first", x.span(0, 11, 59, 2), 20);
             due("last", x.span(0, 11, 59, 3), 50);
+            due("first of one alone", x.span(0, 11, 29, 2), 20);
+            due("last of one alone", x.span(0, 11, 29, 3), 20);
             due("first, on the edge", x.span(0, 10, 60, 2), 10);
             due("last, on the edge", x.span(0, 10, 60, 3), 60);
             due("no first", x.span(0, 1, 9, 2), NONE);
@@ -902,6 +923,12 @@ public final class PromiseTest extends DocumentTest {
             due("least, the first of like zeros", y.value(0, 10, 20, 2), 0);
             due("greatest, the first of like zeros", y.value(0, 10, 50, 3), 0);
             due("least below 0", y.value(0, 10, 50, 2), d(-2));
+            due("least, the next one being less", y.value(0, 10, 30, 2), d(-1));
+            due("least of one alone", y.value(0, 30, 30, 2), d(-1));
+            due("greatest, the second", with(1, 3, 2).value(0, 10, 30, 3), d(3));
+            due("least, the second", with(3, 1, 2).value(0, 10, 30, 2), d(1));
+            due("greatest, the last", with(1, 2, 3).value(0, 10, 30, 3), d(3));
+            due("least, the last", with(3, 2, 1).value(0, 10, 30, 2), d(1));
             due("greatest below 0", y.value(0, 30, 50, 3), d(-1));
             y.late(0, 45, d(-9));
             due("a late one", y.value(0, 10, 50, 2), d(-9));
@@ -930,7 +957,7 @@ public final class PromiseTest extends DocumentTest {
                 }
             }
             for (int what : notBelow(5)) {
-                due("what " + what, x.value(0, 0, 70, what), NO_NUMBER);
+                due("what " + what, with(1, 2).value(0, 0, 70, what), NO_NUMBER);
             }
             due("the sum is none", x.value(0, 40, 50, 4), NO_NUMBER);
             due("the sum is none from there on", x.value(0, 0, 70, 4), NO_NUMBER);
@@ -1005,9 +1032,11 @@ public final class PromiseTest extends DocumentTest {
             x.damage(0, 0, 0, 1);
             due("a broken one aside", x.ways(0, 4), 1);
             due("a broken one aside, values", x.ways(0, 5), 1);
+            x.drops(0, 1);
+            due("one that is gone aside", x.ways(0, 4), 0);
             for (int what = 0; what < 8; what++) {
                 due("no blocks, what " + what, begun(24).ways(0, what), 0);
-                due("a head alone, what " + what, single(3).ways(0, what), 0);
+                due("sixteen heads alone, what " + what, single(16).ways(0, what), 0);
             }
         });
         says(NO_SUCH, () -> {
@@ -1125,6 +1154,10 @@ public final class PromiseTest extends DocumentTest {
             due("the same at the end", with(1, 2, 2).row(0, 0), 2);
             due("each above", with(1, 2, 2, 3, 4, 4).row(0, 1), 3);
             due("one that is none ends it", with(1, 2, Double.NaN, 3, 4, 5).row(0, 1), 3);
+            SeriesPress below = with(1, 2);
+            below.add(0, 30, NAN);
+            below.add(0, 40, d(3));
+            due("one below 0 that is none ends it too", below.row(0, 1), 2);
             due("none is above", with(3, 2, 1).row(0, 1), 1);
             due("zeros are alike", with(-0.0, 0.0, 1).row(0, 1), 2);
             due("from -infinite to infinite", with(Double.NEGATIVE_INFINITY, -1, -Double.MIN_VALUE, 0,
@@ -1224,6 +1257,9 @@ public final class PromiseTest extends DocumentTest {
             x.begins(3, 24);
             due("without points", x.differ(0, 3), 10);
             due("without points, the other way", x.differ(3, 0), 10);
+            x.cuts(0, 20, MAX);
+            due("one point, and without points", x.differ(0, 3), 10);
+            due("one point, and without points, the other way", x.differ(3, 0), 10);
             SeriesPress y = with(0.0);
             y.begins(1, 24);
             y.add(1, 10, MINUS_ZERO);
@@ -1567,6 +1603,13 @@ public final class PromiseTest extends DocumentTest {
             due("all 52", x.rounds(0, 52), 4);
             long[] last = {d(1), NAN, INF, 0, d(2), -1L, MINUS_INF, MINUS_ZERO, 0x7fe0000000000000L};
             dueValues("all 52", x, last);
+            SeriesPress y = begun(24);
+            y.add(0, 0, 3);
+            y.add(0, 1, 3);
+            y.begins(1, 24);
+            y.add(1, 0, 3);
+            due("two of another series are there", y.count(0, 6), 2);
+            due("of one alone", y.rounds(1, 1), 1);
         });
         says(NO_SUCH_AND, () -> {
             SeriesPress x = spoilt();
@@ -1668,14 +1711,18 @@ public final class PromiseTest extends DocumentTest {
         says("NONE: there is none;", () -> {
             due("no blocks", begun(24).dearest(0, 0), NONE);
             due("no blocks, bits", begun(24).dearest(0, 1), NONE);
-            due("heads alone", single(3).dearest(0, 0), NONE);
-            due("heads alone, bits", single(3).dearest(0, 1), NONE);
+            due("sixteen heads alone", single(16).dearest(0, 0), NONE);
+            due("sixteen heads alone, bits", single(16).dearest(0, 1), NONE);
             SeriesPress x = begun(24);
             x.add(0, 0, 0);
             x.add(0, 1, 0);
             x.seals(0);
             x.damage(0, 0, 0, 1);
             due("broken", x.dearest(0, 0), NONE);
+            x.damage(0, 0, 0, 0);
+            due("there is one", x.dearest(0, 0), 1);
+            x.drops(0, 0);
+            due("it is gone", x.dearest(0, 0), NONE);
         });
         says(NO_SUCH, () -> {
             SeriesPress x = single(2);
@@ -1718,6 +1765,9 @@ public final class PromiseTest extends DocumentTest {
             due("ahead of the open one", x.where(0, 9), NONE);
             due("above LAST", x.where(0, 21), NONE);
             due("no blocks", begun(24).where(0, 0), NONE);
+            due("sixteen blocks", single(16).where(0, MAX), NONE);
+            x.drops(0, 1);
+            due("of one that is gone", x.where(0, 20), NONE);
         });
         says(NO_SUCH, () -> {
             SeriesPress x = single(2);
@@ -1741,15 +1791,40 @@ public final class PromiseTest extends DocumentTest {
                 dueText("bytes of " + b, bytesOf(x, 3, b).toString(), bytesOf(x, 0, b).toString());
             }
             due("goes on alike", x.would(3, 22, 5), x.would(0, 22, 5));
-            due("to another one", x.begins(2, 200) + x.copy(0, 2), 0);
+            x.begins(2, 200);
+            x.add(2, 30, 1);
+            x.late(2, 7, 1);
+            x.late(2, 8, 1);
+            due("to another one", x.copy(0, 2), 0);
             dueText("as it too", look(x, 2), look(x, 0));
+        });
+        says("A SERIES is as another one: 0.", () -> {
+            SeriesPress x = spoilt();
             stays("to itself", x, () -> x.copy(0, 0), 0);
+            x.copy(0, 3);
             String was = look(x, 0);
             x.late(3, 3, 9);
             x.damage(3, 0, 0, 0);
-            x.add(3, 22, 0xffff);
+            x.add(3, 22, 5);
             dueText("the first stays when the copy changes", look(x, 0), was);
             due("the copy is sound again", x.fault(3, 0, 0), 0);
+        });
+        says("A SERIES is as another one: 0.", () -> {
+            SeriesPress x = with(1, 1.5, 2.5);
+            x.copy(0, 1);
+            due("what a point would take", x.would(1, 40, d(2.25)), x.would(0, 40, d(2.25)));
+            x.add(0, 40, d(2.25));
+            x.add(1, 40, d(2.25));
+            dueText("a point that comes to both", bytesOf(x, 1, 0).toString(), bytesOf(x, 0, 0).toString());
+            due("no first difference", x.differ(0, 1), NONE);
+            SeriesPress y = holding(sealed(0, 5, 9, "10 0000001 0"));
+            y.copy(0, 1);
+            due("a fault", y.fault(1, 0, 0), 2);
+            due("its place", y.fault(1, 0, 1), 16);
+            SeriesPress z = single(16);
+            z.copy(0, 1);
+            due("sixteen blocks", z.count(1, 2), 16);
+            due("sixteen blocks, alike", z.differ(0, 1), NONE);
         });
         says("A SERIES is as another one: 0.", () -> {
             SeriesPress x = single(16);
@@ -1791,11 +1866,14 @@ public final class PromiseTest extends DocumentTest {
     /** Blocks of stamps from 0 on that are broken, in several ways. */
     static List<List<Integer>> brokenOnes() {
         List<List<Integer>> all = new ArrayList<>();
-        for (int i = 0; i < 17; i += 4) {
+        for (int i = 0; i < 17; i++) {
             List<Integer> bytes = new ArrayList<>(soundOf(17));
             bytes.set(i, (bytes.get(i) + 9) % 251);
             all.add(bytes);
         }
+        List<Integer> ones = sealed(0, -1, 1, "");
+        ones.set(7, 30);
+        all.add(ones);
         List<Integer> check = new ArrayList<>(soundOf(15));
         check.set(14, 255);
         all.add(check);
@@ -2187,10 +2265,18 @@ public final class PromiseTest extends DocumentTest {
 
     static void takes() {
         section("Promise 45: takes");
-        String two = "10 0000010 0";
+        takesTape();
+        takesFaults();
+        takesRefused();
+    }
+
+    /** A second point, two behind the first, of the same value. */
+    static final String TWO_BEHIND = "10 0000010 0";
+
+    static void takesTape() {
         says("The TAPE (empty then, but for -2) comes as a sealed BLOCK behind all: its number.", () -> {
             SeriesPress x = begun(24);
-            List<Integer> bytes = sealed(7, 5, 2, two);
+            List<Integer> bytes = sealed(7, 5, 2, TWO_BEHIND);
             tape(x, bytes);
             due("the first", x.takes(0), 0);
             due("the tape is empty", x.taped(), 0);
@@ -2231,6 +2317,9 @@ public final class PromiseTest extends DocumentTest {
             due("-4", y.takes(0), -4);
             due("it is empty at last", y.taped(), 0);
         });
+    }
+
+    static void takesFaults() {
         says("-2: there is no such SERIES;", () -> {
             SeriesPress x = single(1);
             tape(x, sealed(MAX, 5, 1, ""));
@@ -2243,8 +2332,8 @@ public final class PromiseTest extends DocumentTest {
             SeriesPress x = begun(24);
             x.add(0, 5, 5);
             due("no bytes", x.takes(0), -11);
-            List<List<Integer>> faults = List.of(List.of(1), sealed(7, 5, 9, two), sealed(7, 5, 2, "0 0"),
-                    sealed(7, 5, 2, "110 000000010 0"), sealed(7, 5, 0, two), sealed(7, 5, 2, two + "000001"));
+            List<List<Integer>> faults = List.of(List.of(1), sealed(7, 5, 9, TWO_BEHIND), sealed(7, 5, 2, "0 0"),
+                    sealed(7, 5, 2, "110 000000010 0"), sealed(7, 5, 0, TWO_BEHIND), sealed(7, 5, 2, TWO_BEHIND + "000001"));
             for (int fault = 1; fault <= 6; fault++) {
                 tape(x, faults.get(fault - 1));
                 due("fault " + fault, x.takes(0), -10 - fault);
@@ -2253,8 +2342,11 @@ public final class PromiseTest extends DocumentTest {
                 due("LAST", x.count(0, 7), 5);
             }
         });
+    }
+
+    static void takesRefused() {
         says("-3: it has more than ROOM bytes;", () -> {
-            // 36 + 13 + 15 bits are 8 bytes: 23 with head and check, 17 bits 24, 25 bits 25.
+            // 36 + 13 + 23 bits are 9 bytes: 24 with head and check.
             SeriesPress x = begun(24);
             tape(x, sealed(0, 5, 2, "1111" + low(500000, 32) + anew(0, "1".repeat(23))));
             due("24 bytes", x.takes(0), 0);
@@ -2274,18 +2366,18 @@ public final class PromiseTest extends DocumentTest {
         says("-5: its first stamp is not above LAST;", () -> {
             SeriesPress x = begun(24);
             x.add(0, 5, 5);
-            tape(x, sealed(5, 6, 2, two));
+            tape(x, sealed(5, 6, 2, TWO_BEHIND));
             due("it is LAST", x.takes(0), -5);
             due("the open one is open", x.block(0, 0, 5), 0);
-            tape(x, sealed(4, 6, 2, two));
+            tape(x, sealed(4, 6, 2, TWO_BEHIND));
             due("it is below", x.takes(0), -5);
             x.drops(0, 0);
-            tape(x, sealed(5, 6, 2, two));
+            tape(x, sealed(5, 6, 2, TWO_BEHIND));
             due("LAST of what is gone", x.takes(0), -5);
-            tape(x, sealed(6, 6, 2, two));
+            tape(x, sealed(6, 6, 2, TWO_BEHIND));
             due("it is above", x.takes(0), 0);
             SeriesPress y = begun(24);
-            tape(y, sealed(0, 6, 2, two));
+            tape(y, sealed(0, 6, 2, TWO_BEHIND));
             due("there is no LAST", y.takes(0), 0);
         });
         says("-4: there would be a 17th BLOCK.", () -> {

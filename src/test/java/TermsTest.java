@@ -265,6 +265,9 @@ public final class TermsTest extends DocumentTest {
         }
         int ahead = x.block(0, 0, 4);
         x.add(0, stamps[stamps.length - 1], 3);
+        for (int i = 0; i < stamps.length; i++) {
+            due("read again, stamp " + i, x.point(0, i, 0), stamps[i]);
+        }
         return bitsOf(x, 0, 0).substring(ahead);
     }
 
@@ -329,6 +332,9 @@ public final class TermsTest extends DocumentTest {
         SeriesPress x = begun(200);
         for (int i = 0; i < values.length; i++) {
             x.add(0, i, values[i]);
+        }
+        for (int i = 0; i < values.length; i++) {
+            due("read again, value " + i, x.at(0, i), values[i]);
         }
         return bitsOf(x, 0, 0).substring(9);
     }
