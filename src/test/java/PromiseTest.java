@@ -944,6 +944,10 @@ public final class PromiseTest extends DocumentTest {
             due("no numbers aside", with(1, Double.NaN, 2).value(0, 10, 30, 4), d(3));
             due("too great", with(Double.MAX_VALUE, Double.MAX_VALUE).value(0, 10, 20, 4), INF);
             due("infinite", with(1, Double.NEGATIVE_INFINITY).value(0, 10, 20, 4), MINUS_INF);
+            due("the greatest and -infinite", with(Double.MAX_VALUE, Double.NEGATIVE_INFINITY).value(0, 10, 20, 4),
+                    MINUS_INF);
+            due("-infinite and the greatest", with(Double.NEGATIVE_INFINITY, Double.MAX_VALUE).value(0, 10, 20, 4),
+                    MINUS_INF);
             due("least ones", with(Double.MIN_VALUE, Double.MIN_VALUE).value(0, 10, 20, 4), 2);
         });
         says("NO_NUMBER: there are none such, no numbers, the sum is none.", () -> {
@@ -1811,6 +1815,7 @@ public final class PromiseTest extends DocumentTest {
         });
         says("A SERIES is as another one: 0.", () -> {
             SeriesPress x = with(1, 1.5, 2.5);
+            x.would(0, 1000, d(-7));
             x.copy(0, 1);
             due("what a point would take", x.would(1, 40, d(2.25)), x.would(0, 40, d(2.25)));
             x.add(0, 40, d(2.25));
@@ -2098,6 +2103,8 @@ public final class PromiseTest extends DocumentTest {
             due("just above 0", x.passes(0, 1), 1);
             due("just below 0", x.passes(0, MINUS_ZERO | 1), 0);
             due("infinite", x.passes(0, INF), 0);
+            due("up to infinite", with(1, Double.POSITIVE_INFINITY).passes(0, d(2)), 1);
+            due("up from -infinite", with(Double.NEGATIVE_INFINITY, 1).passes(0, 0), 1);
             due("infinite ones", with(Double.POSITIVE_INFINITY, 1, Double.NEGATIVE_INFINITY).passes(0, INF), 1);
             due("-infinite: none is less", with(1, Double.NEGATIVE_INFINITY).passes(0, MINUS_INF), 0);
             due("over one that is none", with(1, Double.NaN, 3).passes(0, d(2)), 0);

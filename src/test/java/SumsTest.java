@@ -29,7 +29,7 @@ public final class SumsTest {
 
     static long someDouble(Random random) {
         long bits = random.nextLong();
-        switch (random.nextInt(8)) {
+        switch (random.nextInt(9)) {
             case 0: return bits & 0x800fffffffffffffL;
             case 1: return bits & 0x801fffffffffffffL;
             case 2: return bits | 0x7fe0000000000000L;
@@ -37,6 +37,7 @@ public final class SumsTest {
             case 4: return Double.doubleToRawLongBits(random.nextInt(2000) - 1000);
             case 5: return bits & 0xffe0000000000000L;
             case 6: return bits & 0x800fffffffffffffL | 0x3ff0000000000000L;
+            case 7: return bits & 0x8000000000000000L | 0x7ff0000000000000L - (bits & 3);
             default: return bits;
         }
     }
