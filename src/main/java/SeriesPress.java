@@ -1447,7 +1447,7 @@ public final class SeriesPress {
             int found = 0;
             for (int i = 0; i < size; i++) {
                 boolean counts = what == 4 ? !Numbers.isNumber(bits[i])
-                        : what == 5 ? bits[i] == Long.MIN_VALUE
+                        : what == 5 ? bits[i] == Numbers.MINUS_ZERO
                         : Numbers.isInfinite(bits[i]);
                 if (counts) {
                     found++;
@@ -1650,8 +1650,9 @@ public final class SeriesPress {
     /** Doubles, held as their bits and reckoned with in whole numbers, rounded to the nearest even. */
     private static final class Numbers {
         static final long INFINITE = 0x7ff0000000000000L;
-        private static final long UNSIGNED = Long.MAX_VALUE;
-        private static final long SIGN = Long.MIN_VALUE;
+        static final long MINUS_ZERO = 0x8000000000000000L;
+        private static final long UNSIGNED = 0x7fffffffffffffffL;
+        private static final long SIGN = MINUS_ZERO;
         private static final long HIDDEN = 1L << FRACTION_BITS;
         /** Bits kept below the last one of a fraction, by which it is rounded. */
         private static final int GUARDS = 8;

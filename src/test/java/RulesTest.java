@@ -20,6 +20,7 @@ public final class RulesTest {
 
     public static void main(String[] args) throws Exception {
         face();
+        constants();
         nested(SeriesPress.class);
         text(Files.readString(Path.of("src/main/java/SeriesPress.java")));
         if (wrong != 0) {
@@ -39,6 +40,28 @@ public final class RulesTest {
             }
         }
         return face;
+    }
+
+    /** "public static final int NONE = -1;" and its like, as the document's face has them. */
+    static void constants() throws Exception {
+        Pattern constant = Pattern.compile("^    public static final (int|long) (\\w+) = (-?\\w+);$");
+        int found = 0;
+        for (String line : Files.readAllLines(Path.of("../shared/DOC.md"))) {
+            Matcher m = constant.matcher(line);
+            if (m.matches()) {
+                found++;
+                Field f = SeriesPress.class.getDeclaredField(m.group(2));
+                boolean fixed = Modifier.isPublic(f.getModifiers()) && Modifier.isStatic(f.getModifiers())
+                        && Modifier.isFinal(f.getModifiers());
+                if (!fixed || !f.getType().toString().equals(m.group(1))
+                        || f.getLong(null) != Long.decode(m.group(3).replace("L", ""))) {
+                    tell("rule 1: " + f + ", due is " + line.strip());
+                }
+            }
+        }
+        if (found != 2) {
+            tell("rule 1: " + found + " constants in the document's face");
+        }
     }
 
     static void face() throws Exception {
@@ -129,9 +152,10 @@ public final class RulesTest {
                 tell("not in this program: " + sign);
             }
         }
+        // Rule 4 lists static functions of Long, not its constants: MAX_VALUE, MIN_VALUE are not among them.
         Matcher calls = Pattern.compile("\\b(System|Math|Long|Integer|Arrays)\\.(\\w+)").matcher(code);
         TreeSet<String> listed = new TreeSet<>(List.of("System.arraycopy", "Math.min", "Math.max", "Math.floorMod",
-                "Long.numberOfLeadingZeros", "Long.numberOfTrailingZeros", "Long.MAX_VALUE", "Long.MIN_VALUE"));
+                "Long.numberOfLeadingZeros", "Long.numberOfTrailingZeros"));
         while (calls.find()) {
             if (!listed.contains(calls.group())) {
                 tell("rule 4: " + calls.group());
